@@ -1,0 +1,171 @@
+/** Promises 19 to 22: changes and rounds. */
+final class RoundsTest {
+    private static final int MAX = Integer.MAX_VALUE;
+
+    private RoundsTest() {
+    }
+
+    public static void main(String[] args) {
+        promise19();
+        promise19SharedPhases();
+        promises20To22();
+        orderMatters();
+        lowerStageFirst();
+        oneAndTwoStages();
+        sixStages();
+        greatestLeast();
+        toldLater();
+        Check.end();
+    }
+
+    private static Intergreen row(int... leasts) {
+        Intergreen x = new Intergreen();
+        for (int least : leasts) {
+            x.phase(least, 100, 0);
+        }
+        return x;
+    }
+
+    private static void promise19() {
+        Intergreen x = row(1, 1, 1, 1);
+        x.meet(0, 2, 3, 13);
+        x.meet(0, 3, 5, 11);
+        x.meet(1, 2, 4, 17);
+        x.stage(3);
+        x.stage(12);
+        x.stage(2);
+        Check.bounds("from -1", () -> x.change(-1, 0));
+        Check.bounds("from 3", () -> x.change(3, 0));
+        Check.bounds("to -1", () -> x.change(0, -1));
+        Check.bounds("to 3", () -> x.change(0, 3));
+        Check.bounds("to MAX", () -> x.change(0, MAX));
+        Check.bounds("the same, not there", () -> x.change(3, 3));
+        Check.same("the most of 3, 5, 4", x.change(0, 1), 5);
+        Check.same("the most of 13, 11, 17", x.change(1, 0), 17);
+        Check.same("1 to 2", x.change(2, 1), 4);
+        Check.same("2 to 1", x.change(1, 2), 17);
+        Check.same("the same", x.change(0, 0), 0);
+        Check.same("one that has less", x.change(0, 2), 0);
+        Check.same("one that has more", x.change(2, 0), 0);
+        x.start(0);
+        x.go(10);
+        Check.same("started, all the same", x.change(0, 1), 5);
+    }
+
+    private static void promise19SharedPhases() {
+        Intergreen x = row(1, 1, 1, 1);
+        x.meet(1, 2, 2, 3);
+        x.meet(0, 3, 20, 20);
+        x.stage(3);
+        x.stage(5);
+        Check.same("0 is in both", x.change(0, 1), 2);
+        Check.same("0 is in both", x.change(1, 0), 3);
+    }
+
+    private static void promises20To22() {
+        Intergreen x = row(5, 4);
+        Check.same("no stages", x.round(), Intergreen.NONE);
+        Check.same("no stages", x.roundAnew(), Intergreen.NONE);
+        Check.bounds("no stages", () -> x.inRound(0));
+        x.meet(0, 1, 4, 6);
+        x.stage(1);
+        x.stage(2);
+        Check.same("5 + 4 + 4 + 6", x.round(), 19);
+        Check.same("5 + 4 + 4 + 6", x.roundAnew(), 19);
+        Check.bounds("inRound(-1)", () -> x.inRound(-1));
+        Check.bounds("inRound(2)", () -> x.inRound(2));
+        Check.bounds("inRound(MAX)", () -> x.inRound(MAX));
+        isRound(x, 19, 0, 1);
+    }
+
+    private static void isRound(Intergreen x, int seconds, int... stages) {
+        Check.same("round", x.round(), seconds);
+        Check.same("roundAnew", x.roundAnew(), seconds);
+        for (int place = 0; place < stages.length; place++) {
+            Check.same("inRound(" + place + ")", x.inRound(place), stages[place]);
+        }
+        Check.bounds("behind the last", () -> x.inRound(stages.length));
+    }
+
+    /** Single stages for the phases; seconds from the row's number to the column's. */
+    private static Intergreen between(int[][] seconds) {
+        Intergreen x = new Intergreen();
+        for (int one = 0; one < seconds.length; one++) {
+            x.phase(1, 1, 0);
+        }
+        for (int one = 0; one < seconds.length; one++) {
+            for (int other = 0; other < one; other++) {
+                if (seconds[one][other] > 0) {
+                    x.meet(one, other, seconds[one][other], seconds[other][one]);
+                }
+            }
+        }
+        for (int one = 0; one < seconds.length; one++) {
+            x.stage(1 << one);
+        }
+        return x;
+    }
+
+    private static void orderMatters() {
+        isRound(between(new int[][] {{0, 9, 9, 1}, {1, 0, 9, 9}, {9, 1, 0, 9}, {9, 9, 1, 0}}), 8, 0, 3, 2, 1);
+        isRound(between(new int[][] {{0, 9, 1, 9}, {9, 0, 9, 1}, {9, 1, 0, 9}, {1, 9, 9, 0}}), 8, 0, 2, 1, 3);
+        isRound(between(new int[][] {{0, 1, 1, 9}, {9, 0, 9, 1}, {9, 1, 0, 9}, {20, 9, 9, 0}}), 24, 0, 1, 3, 2);
+    }
+
+    private static void lowerStageFirst() {
+        isRound(between(new int[][] {{0, 5, 5, 5}, {5, 0, 5, 5}, {5, 5, 0, 5}, {5, 5, 5, 0}}), 24, 0, 1, 2, 3);
+        isRound(between(new int[][] {{0, 2, 2}, {2, 0, 2}, {2, 2, 0}}), 9, 0, 1, 2);
+        isRound(between(new int[][] {{0, 3, 3, 3}, {3, 0, 9, 3}, {3, 3, 0, 3}, {3, 3, 3, 0}}), 16, 0, 1, 3, 2);
+        isRound(between(new int[][] {{0, 9, 3, 3}, {3, 0, 3, 3}, {3, 3, 0, 3}, {3, 3, 3, 0}}), 16, 0, 2, 1, 3);
+    }
+
+    private static void oneAndTwoStages() {
+        Intergreen one = row(7);
+        one.stage(1);
+        isRound(one, 7, 0);
+        Intergreen twice = row(7);
+        twice.stage(1);
+        twice.stage(1);
+        isRound(twice, 14, 0, 1);
+    }
+
+    private static void sixStages() {
+        int[][] seconds = new int[6][6];
+        int[] row = {0, 4, 2, 5, 1, 3};
+        for (int[] from : seconds) {
+            java.util.Arrays.fill(from, 7);
+        }
+        for (int place = 0; place < 6; place++) {
+            seconds[row[place]][row[(place + 1) % 6]] = 2;
+        }
+        isRound(between(seconds), 18, row);
+        seconds[5][1] = 20;
+        isRound(between(seconds), 33, 0, 1, 3, 4, 2, 5);
+    }
+
+    private static void greatestLeast() {
+        Intergreen x = row(3, 30, 8, 1);
+        x.stage(9);
+        x.stage(15);
+        x.stage(4);
+        isRound(x, 3 + 30 + 8, 0, 1, 2);
+    }
+
+    private static void toldLater() {
+        Intergreen x = row(2, 3, 4);
+        x.stage(1);
+        x.stage(2);
+        isRound(x, 5, 0, 1);
+        x.meet(0, 1, 6, 7);
+        isRound(x, 18, 0, 1);
+        x.stage(4);
+        isRound(x, 15, 0, 1, 2);
+        x.meet(1, 2, 1, 9);
+        isRound(x, 2 + 3 + 4 + 6 + 1, 0, 1, 2);
+        x.meet(0, 1, 20, 1);
+        isRound(x, 2 + 3 + 4 + 9 + 1, 0, 2, 1);
+        x.start(0);
+        x.go(10);
+        isRound(x, 2 + 3 + 4 + 9 + 1, 0, 2, 1);
+    }
+}
