@@ -232,5 +232,13 @@ final class LightsTest {
         Check.bounds("no second 5000", () -> x.lamp(0, 5000));
         x.stop();
         Check.same("stop at the end", x.of(0), Intergreen.STOPPED);
+
+        Intergreen stopped = two();
+        for (int times = 0; times < 5; times++) {
+            stopped.go(1000);
+        }
+        Check.same("the last second, stopped", stopped.lamp(1, 4999), Intergreen.DARK);
+        stopped.start(0);
+        Check.same("a start at the end", stopped.of(0), Intergreen.CHANGING);
     }
 }

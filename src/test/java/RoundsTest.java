@@ -15,6 +15,7 @@ final class RoundsTest {
         sixStages();
         greatestLeast();
         toldLater();
+        eachAskedAlone();
         Check.end();
     }
 
@@ -167,5 +168,26 @@ final class RoundsTest {
         x.start(0);
         x.go(10);
         isRound(x, 2 + 3 + 4 + 9 + 1, 0, 2, 1);
+    }
+
+    /** No answer leans on another one that was asked before. */
+    private static void eachAskedAlone() {
+        int[][] seconds = {{0, 9, 9, 1}, {1, 0, 9, 9}, {9, 1, 0, 9}, {9, 9, 1, 0}};
+        Check.same("inRound alone", between(seconds).inRound(1), 3);
+        Check.same("roundAnew alone", between(seconds).roundAnew(), 8);
+        Check.same("round alone", between(seconds).round(), 8);
+        Intergreen x = row(1, 1, 1);
+        x.stage(1);
+        x.stage(2);
+        x.stage(4);
+        Check.same("nobody meets", x.inRound(1), 1);
+        x.meet(0, 1, 5, 5);
+        x.meet(1, 2, 5, 1);
+        Check.same("inRound, told more", x.inRound(1), 2);
+        x.meet(0, 2, 20, 1);
+        Check.same("roundAnew, told more", x.roundAnew(), 3 + 5 + 5 + 1);
+        x.meet(0, 2, 1, 20);
+        Check.same("round, told more", x.round(), 3 + 1 + 1 + 5);
+        Check.same("inRound, told more", x.inRound(2), 1);
     }
 }

@@ -27,6 +27,8 @@ final class SecondsTest {
         waits();
         restAndVehicles();
         delays();
+        oneSecondBetween();
+        eightPhases();
         Check.end();
     }
 
@@ -479,5 +481,53 @@ final class SecondsTest {
         x.go(5);
         Check.same("1 is green, in the second 8", x.delay(), 37);
         Check.same("two went", x.delayEach(), 18.5f);
+    }
+
+    private static void oneSecondBetween() {
+        Intergreen x = new Intergreen();
+        x.phase(1, 9, 0);
+        x.phase(1, 9, 0);
+        x.meet(0, 1, 1, 1);
+        x.stage(1);
+        x.stage(2);
+        x.start(0);
+        x.press(1);
+        x.go(2);
+        Check.same("not in the second of the end", x.ofPhase(1, 0), Intergreen.RED);
+        x.go(1);
+        Check.same("in the next one", x.ofPhase(1, 0), Intergreen.GREEN);
+        Check.same("while the other is amber", x.ofPhase(0, 0), Intergreen.AMBER);
+        x.breaks(0, Intergreen.RED, true);
+        x.go(1);
+        stands("the amber one needs no red lamp", x, Intergreen.ON, 1);
+        x.go(1);
+        stands("it becomes red, and meets a green one", x, Intergreen.FLASHING, Intergreen.NONE);
+    }
+
+    private static void eightPhases() {
+        Intergreen x = new Intergreen();
+        for (int number = 0; number < 8; number++) {
+            x.phase(1, 9, 0);
+        }
+        x.meet(7, 0, 2, 3);
+        x.stage(1);
+        x.stage(128);
+        x.start(0);
+        x.breaks(6, Intergreen.RED, true);
+        x.go(2);
+        stands("6 meets nobody", x, Intergreen.ON, 0);
+        x.press(7);
+        x.go(4);
+        stands("7 is green, 3 seconds behind 0", x, Intergreen.ON, 1);
+        x.ask(0);
+        x.breaks(7, Intergreen.RED, true);
+        x.go(3);
+        stands("0 is green, 2 seconds behind 7, which is amber yet", x, Intergreen.ON, 0);
+        x.go(1);
+        stands("7 is red and meets 0", x, Intergreen.FLASHING, Intergreen.NONE);
+        for (int number = 0; number < 8; number++) {
+            Check.same("dark: " + number, x.lamp(number, 9), Intergreen.DARK);
+            Check.same("red: " + number, x.ofPhase(number, 0), Intergreen.RED);
+        }
     }
 }
