@@ -20,18 +20,8 @@ final class AskedTest {
         Check.end();
     }
 
-    private static Intergreen two() {
-        Intergreen x = new Intergreen();
-        x.phase(5, 20, 2);
-        x.phase(4, 10, 0);
-        x.meet(0, 1, 4, 6);
-        x.stage(1);
-        x.stage(2);
-        return x;
-    }
-
     private static void promise13() {
-        Intergreen x = two();
+        Intergreen x = Crossings.two();
         Check.bounds("no second yet", () -> x.lamp(0, 0));
         x.go(1);
         Check.bounds("phase -1", () -> x.lamp(-1, 0));
@@ -77,7 +67,7 @@ final class AskedTest {
     }
 
     private static void promise14() {
-        Intergreen x = two();
+        Intergreen x = Crossings.two();
         Check.bounds("phase -1", () -> x.ofPhase(-1, 0));
         Check.bounds("phase 2", () -> x.ofPhase(2, 0));
         Check.bounds("phase 2, what 7", () -> x.ofPhase(2, 7));
@@ -105,7 +95,7 @@ final class AskedTest {
     }
 
     private static void promise15() {
-        Intergreen x = two();
+        Intergreen x = Crossings.two();
         Check.argument("what -1", () -> x.of(-1));
         Check.argument("what 5", () -> x.of(5));
         Check.argument("what MIN", () -> x.of(MIN));
@@ -128,7 +118,7 @@ final class AskedTest {
     }
 
     private static void promise16() {
-        Intergreen x = two();
+        Intergreen x = Crossings.two();
         x.arrive(0, 50);
         for (int more = 0; more < 19; more++) {
             x.arrive(0, 50);
@@ -144,7 +134,7 @@ final class AskedTest {
     }
 
     private static void promise17() {
-        Intergreen x = two();
+        Intergreen x = Crossings.two();
         x.arrive(0, 4);
         x.go(1);
         Check.same("none went", x.delayEach(), 0);
@@ -173,7 +163,7 @@ final class AskedTest {
     }
 
     private static void promise18() {
-        Intergreen x = two();
+        Intergreen x = Crossings.two();
         Check.bounds("one -1", () -> x.seen(-1, 0));
         Check.bounds("one 2", () -> x.seen(2, 0));
         Check.bounds("other -1", () -> x.seen(0, -1));
@@ -220,7 +210,7 @@ final class AskedTest {
     }
 
     private static void promise18Least() {
-        Intergreen x = two();
+        Intergreen x = Crossings.two();
         x.start(0);
         x.go(1);
         x.stop();
@@ -250,7 +240,7 @@ final class AskedTest {
     }
 
     private static void promise18TheSecond0() {
-        Intergreen x = two();
+        Intergreen x = Crossings.two();
         x.start(1);
         x.go(1);
         x.stop();

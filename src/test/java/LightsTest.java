@@ -18,19 +18,8 @@ final class LightsTest {
         Check.end();
     }
 
-    /** Two phases that meet, each with a stage of its own. */
-    private static Intergreen two() {
-        Intergreen x = new Intergreen();
-        x.phase(5, 20, 2);
-        x.phase(4, 10, 0);
-        x.meet(0, 1, 4, 6);
-        x.stage(1);
-        x.stage(2);
-        return x;
-    }
-
     private static void promise5() {
-        Intergreen x = two();
+        Intergreen x = Crossings.two();
         Check.bounds("start(-1)", () -> x.start(-1));
         Check.bounds("start(2)", () -> x.start(2));
         Check.bounds("start(MAX)", () -> x.start(MAX));
@@ -52,7 +41,7 @@ final class LightsTest {
     }
 
     private static void promise6() {
-        Intergreen x = two();
+        Intergreen x = Crossings.two();
         Check.state("stop at first", x::stop);
         x.start(0);
         x.stop();
@@ -76,7 +65,7 @@ final class LightsTest {
     }
 
     private static void promise6EndsGreens() {
-        Intergreen x = two();
+        Intergreen x = Crossings.two();
         x.start(0);
         x.go(3);
         x.stop();
@@ -89,7 +78,7 @@ final class LightsTest {
         Check.same("4 seconds behind the end, in the second 7", x.ofPhase(1, 0), Intergreen.GREEN);
         Check.same("seen", x.seen(0, 1), 4);
 
-        Intergreen amber = two();
+        Intergreen amber = Crossings.two();
         amber.start(0);
         amber.press(1);
         amber.go(6);
@@ -105,7 +94,7 @@ final class LightsTest {
     }
 
     private static void promise7() {
-        Intergreen x = two();
+        Intergreen x = Crossings.two();
         Check.bounds("press(-1)", () -> x.press(-1));
         Check.bounds("press(2)", () -> x.press(2));
         Check.bounds("press(MIN)", () -> x.press(MIN));
@@ -129,7 +118,7 @@ final class LightsTest {
     }
 
     private static void promise8() {
-        Intergreen x = two();
+        Intergreen x = Crossings.two();
         Check.bounds("arrive(-1, 1)", () -> x.arrive(-1, 1));
         Check.bounds("arrive(2, 1)", () -> x.arrive(2, 1));
         Check.bounds("arrive(2, 0)", () -> x.arrive(2, 0));
@@ -157,7 +146,7 @@ final class LightsTest {
     }
 
     private static void promise9And10() {
-        Intergreen x = two();
+        Intergreen x = Crossings.two();
         Check.bounds("ask(-1)", () -> x.ask(-1));
         Check.bounds("ask(2)", () -> x.ask(2));
         Check.state("cancel nothing", x::cancel);
@@ -179,7 +168,7 @@ final class LightsTest {
     }
 
     private static void promise11() {
-        Intergreen x = two();
+        Intergreen x = Crossings.two();
         Check.bounds("breaks(-1, ..)", () -> x.breaks(-1, 0, true));
         Check.bounds("breaks(2, ..)", () -> x.breaks(2, 0, true));
         Check.bounds("breaks(2, 3, ..)", () -> x.breaks(2, 3, true));
@@ -205,7 +194,7 @@ final class LightsTest {
     }
 
     private static void promise12() {
-        Intergreen x = two();
+        Intergreen x = Crossings.two();
         Check.argument("go(0)", () -> x.go(0));
         Check.argument("go(1001)", () -> x.go(1001));
         Check.argument("go(MIN)", () -> x.go(MIN));
@@ -233,7 +222,7 @@ final class LightsTest {
         x.stop();
         Check.same("stop at the end", x.of(0), Intergreen.STOPPED);
 
-        Intergreen stopped = two();
+        Intergreen stopped = Crossings.two();
         for (int times = 0; times < 5; times++) {
             stopped.go(1000);
         }
