@@ -1,7 +1,9 @@
 /** Random runs of calls, the same ones each time: the class must answer each call as the plain model does. */
 final class ModelTest {
-    private static final int RUNS = 600;
+    private static final int RUNS = 3000;
+    /** What an object answers behind so many calls is free. */
     private static final int CALLS = 512;
+    private static final int STEPS_OF_TELLING = 40;
 
     private final Intergreen real = new Intergreen();
     private final PlainModel model = new PlainModel();
@@ -13,6 +15,7 @@ final class ModelTest {
     private final int pace;
     private final int faults;
     private final int[] called = new int[3];
+    private int calls;
 
     private ModelTest(int run) {
         this.run = run;
@@ -48,8 +51,8 @@ final class ModelTest {
     }
 
     private void compare() {
-        for (int call = 0; call < CALLS; call++) {
-            oneCall(call < 60 ? upTo(3) : upTo(pace + 19));
+        for (int step = 0; calls < CALLS; step++) {
+            oneCall(step < STEPS_OF_TELLING ? upTo(3) : upTo(pace + 19));
         }
     }
 
@@ -61,7 +64,7 @@ final class ModelTest {
         int other = called[2];
         switch (kind) {
             case 0:
-                if (upTo(5) == 0) {
+                if (upTo(20) == 0) {
                     tell(one, other);
                     return;
                 }
@@ -118,7 +121,9 @@ final class ModelTest {
             default:
                 int seconds = upTo(40) == 0 ? number(1, 1000) : number(1, 1 + upTo(12));
                 same("go", () -> real.go(seconds), () -> model.go(seconds));
-                tellAll();
+                if (upTo(3) == 0) {
+                    tellAll();
+                }
                 return;
         }
     }
@@ -181,6 +186,10 @@ final class ModelTest {
     }
 
     private void same(String call, Answer got, Answer due) {
+        if (calls == CALLS) {
+            return;
+        }
+        calls++;
         String is = told(got);
         String should = told(due);
         if (!is.equals(should)) {

@@ -76,58 +76,30 @@ final class RoundsTest {
         Check.bounds("inRound(-1)", () -> x.inRound(-1));
         Check.bounds("inRound(2)", () -> x.inRound(2));
         Check.bounds("inRound(MAX)", () -> x.inRound(MAX));
-        isRound(x, 19, 0, 1);
-    }
-
-    private static void isRound(Intergreen x, int seconds, int... stages) {
-        Check.same("round", x.round(), seconds);
-        Check.same("roundAnew", x.roundAnew(), seconds);
-        for (int place = 0; place < stages.length; place++) {
-            Check.same("inRound(" + place + ")", x.inRound(place), stages[place]);
-        }
-        Check.bounds("behind the last", () -> x.inRound(stages.length));
-    }
-
-    /** Single stages for the phases; seconds from the row's number to the column's. */
-    private static Intergreen between(int[][] seconds) {
-        Intergreen x = new Intergreen();
-        for (int one = 0; one < seconds.length; one++) {
-            x.phase(1, 1, 0);
-        }
-        for (int one = 0; one < seconds.length; one++) {
-            for (int other = 0; other < one; other++) {
-                if (seconds[one][other] > 0) {
-                    x.meet(one, other, seconds[one][other], seconds[other][one]);
-                }
-            }
-        }
-        for (int one = 0; one < seconds.length; one++) {
-            x.stage(1 << one);
-        }
-        return x;
+        Check.round(x, 19, 0, 1);
     }
 
     private static void orderMatters() {
-        isRound(between(new int[][] {{0, 9, 9, 1}, {1, 0, 9, 9}, {9, 1, 0, 9}, {9, 9, 1, 0}}), 8, 0, 3, 2, 1);
-        isRound(between(new int[][] {{0, 9, 1, 9}, {9, 0, 9, 1}, {9, 1, 0, 9}, {1, 9, 9, 0}}), 8, 0, 2, 1, 3);
-        isRound(between(new int[][] {{0, 1, 1, 9}, {9, 0, 9, 1}, {9, 1, 0, 9}, {20, 9, 9, 0}}), 24, 0, 1, 3, 2);
+        Check.round(new int[][] {{0, 9, 9, 1}, {1, 0, 9, 9}, {9, 1, 0, 9}, {9, 9, 1, 0}}, 8, 0, 3, 2, 1);
+        Check.round(new int[][] {{0, 9, 1, 9}, {9, 0, 9, 1}, {9, 1, 0, 9}, {1, 9, 9, 0}}, 8, 0, 2, 1, 3);
+        Check.round(new int[][] {{0, 1, 1, 9}, {9, 0, 9, 1}, {9, 1, 0, 9}, {20, 9, 9, 0}}, 24, 0, 1, 3, 2);
     }
 
     private static void lowerStageFirst() {
-        isRound(between(new int[][] {{0, 5, 5, 5}, {5, 0, 5, 5}, {5, 5, 0, 5}, {5, 5, 5, 0}}), 24, 0, 1, 2, 3);
-        isRound(between(new int[][] {{0, 2, 2}, {2, 0, 2}, {2, 2, 0}}), 9, 0, 1, 2);
-        isRound(between(new int[][] {{0, 3, 3, 3}, {3, 0, 9, 3}, {3, 3, 0, 3}, {3, 3, 3, 0}}), 16, 0, 1, 3, 2);
-        isRound(between(new int[][] {{0, 9, 3, 3}, {3, 0, 3, 3}, {3, 3, 0, 3}, {3, 3, 3, 0}}), 16, 0, 2, 1, 3);
+        Check.round(new int[][] {{0, 5, 5, 5}, {5, 0, 5, 5}, {5, 5, 0, 5}, {5, 5, 5, 0}}, 24, 0, 1, 2, 3);
+        Check.round(new int[][] {{0, 2, 2}, {2, 0, 2}, {2, 2, 0}}, 9, 0, 1, 2);
+        Check.round(new int[][] {{0, 3, 3, 3}, {3, 0, 9, 3}, {3, 3, 0, 3}, {3, 3, 3, 0}}, 16, 0, 1, 3, 2);
+        Check.round(new int[][] {{0, 9, 3, 3}, {3, 0, 3, 3}, {3, 3, 0, 3}, {3, 3, 3, 0}}, 16, 0, 2, 1, 3);
     }
 
     private static void oneAndTwoStages() {
         Intergreen one = row(7);
         one.stage(1);
-        isRound(one, 7, 0);
+        Check.round(one, 7, 0);
         Intergreen twice = row(7);
         twice.stage(1);
         twice.stage(1);
-        isRound(twice, 14, 0, 1);
+        Check.round(twice, 14, 0, 1);
     }
 
     private static void sixStages() {
@@ -139,9 +111,9 @@ final class RoundsTest {
         for (int place = 0; place < 6; place++) {
             seconds[row[place]][row[(place + 1) % 6]] = 2;
         }
-        isRound(between(seconds), 18, row);
+        Check.round(seconds, 18, row);
         seconds[5][1] = 20;
-        isRound(between(seconds), 33, 0, 1, 3, 4, 2, 5);
+        Check.round(seconds, 33, 0, 1, 3, 4, 2, 5);
     }
 
     private static void greatestLeast() {
@@ -149,33 +121,33 @@ final class RoundsTest {
         x.stage(9);
         x.stage(15);
         x.stage(4);
-        isRound(x, 3 + 30 + 8, 0, 1, 2);
+        Check.round(x, 3 + 30 + 8, 0, 1, 2);
     }
 
     private static void toldLater() {
         Intergreen x = row(2, 3, 4);
         x.stage(1);
         x.stage(2);
-        isRound(x, 5, 0, 1);
+        Check.round(x, 5, 0, 1);
         x.meet(0, 1, 6, 7);
-        isRound(x, 18, 0, 1);
+        Check.round(x, 18, 0, 1);
         x.stage(4);
-        isRound(x, 15, 0, 1, 2);
+        Check.round(x, 15, 0, 1, 2);
         x.meet(1, 2, 1, 9);
-        isRound(x, 2 + 3 + 4 + 6 + 1, 0, 1, 2);
+        Check.round(x, 2 + 3 + 4 + 6 + 1, 0, 1, 2);
         x.meet(0, 1, 20, 1);
-        isRound(x, 2 + 3 + 4 + 9 + 1, 0, 2, 1);
+        Check.round(x, 2 + 3 + 4 + 9 + 1, 0, 2, 1);
         x.start(0);
         x.go(10);
-        isRound(x, 2 + 3 + 4 + 9 + 1, 0, 2, 1);
+        Check.round(x, 2 + 3 + 4 + 9 + 1, 0, 2, 1);
     }
 
     /** No answer leans on another one that was asked before. */
     private static void eachAskedAlone() {
         int[][] seconds = {{0, 9, 9, 1}, {1, 0, 9, 9}, {9, 1, 0, 9}, {9, 9, 1, 0}};
-        Check.same("inRound alone", between(seconds).inRound(1), 3);
-        Check.same("roundAnew alone", between(seconds).roundAnew(), 8);
-        Check.same("round alone", between(seconds).round(), 8);
+        Check.same("inRound alone", Crossings.between(seconds).inRound(1), 3);
+        Check.same("roundAnew alone", Crossings.between(seconds).roundAnew(), 8);
+        Check.same("round alone", Crossings.between(seconds).round(), 8);
         Intergreen x = row(1, 1, 1);
         x.stage(1);
         x.stage(2);

@@ -32,102 +32,85 @@ final class SecondsTest {
         Check.end();
     }
 
-    /** So many phases, no two of which meet, each alone in a stage of its number; least 2, most 6. */
-    private static Intergreen row(int count, int gap) {
-        Intergreen x = new Intergreen();
-        for (int number = 0; number < count; number++) {
-            x.phase(2, 6, gap);
-        }
-        for (int number = 0; number < count; number++) {
-            x.stage(1 << number);
-        }
-        return x;
-    }
-
-    private static void stands(String told, Intergreen x, int mode, int stage) {
-        Check.same(told + ": mode", x.of(0), mode);
-        Check.same(told + ": stage", x.of(1), stage);
-    }
-
     private static void wantedIsTheNextBehind() {
-        Intergreen x = row(4, 0);
+        Intergreen x = Crossings.alone(4, 2, 6, 0);
         x.start(2);
         x.press(1);
         x.press(3);
         x.press(0);
         x.go(2);
-        stands("least is not reached", x, Intergreen.ON, 2);
+        Crossings.stands("least is not reached", x, Intergreen.ON, 2);
         x.go(1);
-        stands("3 is behind 2", x, Intergreen.ON, 3);
+        Crossings.stands("3 is behind 2", x, Intergreen.ON, 3);
         x.go(2);
-        stands("behind the last one is 0", x, Intergreen.ON, 0);
+        Crossings.stands("behind the last one is 0", x, Intergreen.ON, 0);
         x.go(2);
-        stands("1 is behind 0", x, Intergreen.ON, 1);
+        Crossings.stands("1 is behind 0", x, Intergreen.ON, 1);
         x.go(9);
-        stands("nothing is demanded", x, Intergreen.ON, 1);
+        Crossings.stands("nothing is demanded", x, Intergreen.ON, 1);
         x.press(1);
         x.go(9);
-        stands("a press of the green one is nothing", x, Intergreen.ON, 1);
+        Crossings.stands("a press of the green one is nothing", x, Intergreen.ON, 1);
     }
 
     private static void wantedByQueue() {
-        Intergreen x = row(3, 0);
+        Intergreen x = Crossings.alone(3, 2, 6, 0);
         x.start(0);
         x.go(3);
         x.arrive(2, 1);
         x.go(1);
-        stands("a queue demands", x, Intergreen.ON, 2);
+        Crossings.stands("a queue demands", x, Intergreen.ON, 2);
         Check.same("its vehicle went", x.of(4), 1);
     }
 
     private static void leastHoldsTheTram() {
-        Intergreen x = row(2, 0);
+        Intergreen x = Crossings.alone(2, 2, 6, 0);
         x.start(0);
         x.ask(1);
         x.go(2);
-        stands("least", x, Intergreen.ON, 0);
+        Crossings.stands("least", x, Intergreen.ON, 0);
         x.go(1);
-        stands("least is reached", x, Intergreen.ON, 1);
+        Crossings.stands("least is reached", x, Intergreen.ON, 1);
     }
 
     private static void restHoldsTheDemand() {
-        Intergreen x = row(2, 4);
+        Intergreen x = Crossings.alone(2, 2, 6, 4);
         x.start(0);
         x.go(1);
         Check.same("rest", x.ofPhase(0, 2), 3);
         x.press(1);
         x.go(3);
-        stands("rest became 0", x, Intergreen.ON, 0);
+        Crossings.stands("rest became 0", x, Intergreen.ON, 0);
         Check.same("rest", x.ofPhase(0, 2), 0);
         Check.same("green", x.ofPhase(0, 1), 4);
         x.go(1);
-        stands("rest was 0", x, Intergreen.ON, 1);
+        Crossings.stands("rest was 0", x, Intergreen.ON, 1);
     }
 
     private static void mostEndsTheGreen() {
-        Intergreen x = row(2, 4);
+        Intergreen x = Crossings.alone(2, 2, 6, 4);
         x.start(0);
         x.press(1);
         for (int second = 0; second < 6; second++) {
             x.arrive(0, 2);
             x.go(1);
         }
-        stands("below most", x, Intergreen.ON, 0);
+        Crossings.stands("below most", x, Intergreen.ON, 0);
         Check.same("green", x.ofPhase(0, 1), 6);
         Check.same("rest", x.ofPhase(0, 2), 4);
         x.go(1);
-        stands("most", x, Intergreen.ON, 1);
+        Crossings.stands("most", x, Intergreen.ON, 1);
     }
 
     private static void tramGoesAheadOfRest() {
-        Intergreen x = row(3, 10);
+        Intergreen x = Crossings.alone(3, 2, 6, 10);
         x.start(0);
         x.arrive(0, 50);
         x.press(1);
         x.go(2);
         x.ask(2);
         x.go(1);
-        stands("the tram, with rest and below most", x, Intergreen.ON, 2);
+        Crossings.stands("the tram, with rest and below most", x, Intergreen.ON, 2);
         Check.same("amber", x.ofPhase(0, 0), Intergreen.AMBER);
     }
 
@@ -144,14 +127,14 @@ final class SecondsTest {
         x.go(1);
         x.ask(2);
         x.go(1);
-        stands("the lowest that has it, not the next behind", x, Intergreen.ON, 1);
+        Crossings.stands("the lowest that has it, not the next behind", x, Intergreen.ON, 1);
         x.cancel();
         x.press(0);
         x.go(1);
-        stands("0 is the first behind 1 round the end", x, Intergreen.ON, 0);
+        Crossings.stands("0 is the first behind 1 round the end", x, Intergreen.ON, 0);
         x.ask(1);
         x.go(1);
-        stands("lowest again", x, Intergreen.ON, 1);
+        Crossings.stands("lowest again", x, Intergreen.ON, 1);
     }
 
     private static void tramKeepsItsStage() {
@@ -165,10 +148,10 @@ final class SecondsTest {
         x.ask(0);
         x.press(1);
         x.go(30);
-        stands("the one that is on has it, though a lower one has it too", x, Intergreen.ON, 2);
+        Crossings.stands("the one that is on has it, though a lower one has it too", x, Intergreen.ON, 2);
         x.cancel();
         x.go(1);
-        stands("cancelled: the demand", x, Intergreen.ON, 1);
+        Crossings.stands("cancelled: the demand", x, Intergreen.ON, 1);
     }
 
     private static void tramWithoutStage() {
@@ -181,12 +164,12 @@ final class SecondsTest {
         x.start(0);
         x.ask(2);
         x.go(2);
-        stands("no stage has it", x, Intergreen.ON, 0);
+        Crossings.stands("no stage has it", x, Intergreen.ON, 0);
         x.press(1);
         x.go(3);
-        stands("found by demand, so the rest holds", x, Intergreen.ON, 0);
+        Crossings.stands("found by demand, so the rest holds", x, Intergreen.ON, 0);
         x.go(1);
-        stands("found by demand", x, Intergreen.ON, 1);
+        Crossings.stands("found by demand", x, Intergreen.ON, 1);
     }
 
     private static void eachOfThoseThatLeave() {
@@ -199,13 +182,13 @@ final class SecondsTest {
         x.start(0);
         x.ask(2);
         x.go(5);
-        stands("the least of each", x, Intergreen.ON, 0);
+        Crossings.stands("the least of each", x, Intergreen.ON, 0);
         x.cancel();
         x.press(2);
         x.go(2);
-        stands("the rest of each", x, Intergreen.ON, 0);
+        Crossings.stands("the rest of each", x, Intergreen.ON, 0);
         x.go(1);
-        stands("each may end", x, Intergreen.ON, 1);
+        Crossings.stands("each may end", x, Intergreen.ON, 1);
         Check.same("both are amber", x.ofPhase(0, 0), Intergreen.AMBER);
         Check.same("both are amber", x.ofPhase(1, 0), Intergreen.AMBER);
     }
@@ -220,7 +203,7 @@ final class SecondsTest {
         x.go(1);
         x.press(1);
         x.go(1);
-        stands("a stage with more phases", x, Intergreen.ON, 1);
+        Crossings.stands("a stage with more phases", x, Intergreen.ON, 1);
         Check.same("its green goes on", x.ofPhase(0, 1), 2);
         Check.same("the other's begins", x.ofPhase(1, 1), 1);
         Check.same("its rest is not anew", x.ofPhase(0, 2), 8);
@@ -237,15 +220,15 @@ final class SecondsTest {
         x.start(0);
         x.press(2);
         x.go(7);
-        stands("changing", x, Intergreen.CHANGING, 1);
+        Crossings.stands("changing", x, Intergreen.CHANGING, 1);
         Check.same("green all the while", x.ofPhase(0, 1), 7);
         x.go(1);
-        stands("on", x, Intergreen.ON, 1);
+        Crossings.stands("on", x, Intergreen.ON, 1);
         Check.same("green all the while", x.ofPhase(0, 1), 8);
     }
 
     private static void amberFor3Seconds() {
-        Intergreen x = row(2, 0);
+        Intergreen x = Crossings.alone(2, 2, 6, 0);
         x.start(0);
         x.press(1);
         x.go(3);
@@ -291,14 +274,14 @@ final class SecondsTest {
         x.start(0);
         x.press(1);
         x.go(2);
-        stands("ended in 1", x, Intergreen.CHANGING, 1);
+        Crossings.stands("ended in 1", x, Intergreen.CHANGING, 1);
         x.go(2);
         Check.same("2 seconds behind", x.ofPhase(1, 0), Intergreen.GREEN);
         Check.same("not yet", x.ofPhase(2, 0), Intergreen.RED);
-        stands("not all are green", x, Intergreen.CHANGING, 1);
+        Crossings.stands("not all are green", x, Intergreen.CHANGING, 1);
         x.go(2);
         Check.same("4 seconds behind", x.ofPhase(2, 0), Intergreen.GREEN);
-        stands("all are green", x, Intergreen.ON, 1);
+        Crossings.stands("all are green", x, Intergreen.ON, 1);
         Check.same("the first one's green", x.ofPhase(1, 1), 3);
         Check.same("the other one's green", x.ofPhase(2, 1), 1);
     }
@@ -322,7 +305,7 @@ final class SecondsTest {
         x.arrive(0, 3);
         x.breaks(1, Intergreen.RED, true);
         Check.same("nobody goes", x.go(1), 0);
-        stands("it meets a green one", x, Intergreen.FLASHING, Intergreen.NONE);
+        Crossings.stands("it meets a green one", x, Intergreen.FLASHING, Intergreen.NONE);
         Check.same("red", x.ofPhase(0, 0), Intergreen.RED);
         Check.same("dark at once", x.lamp(0, 2), Intergreen.DARK);
         Check.same("dark at once, also the third", x.lamp(2, 2), Intergreen.DARK);
@@ -330,10 +313,10 @@ final class SecondsTest {
         Check.same("waits at once", x.ofPhase(0, 4), 1);
         x.breaks(1, Intergreen.RED, false);
         x.go(4);
-        stands("it flashes on, though mended", x, Intergreen.FLASHING, Intergreen.NONE);
+        Crossings.stands("it flashes on, though mended", x, Intergreen.FLASHING, Intergreen.NONE);
         Check.same("dark", x.lamp(2, 6), Intergreen.DARK);
         x.stop();
-        stands("stopped", x, Intergreen.STOPPED, Intergreen.NONE);
+        Crossings.stands("stopped", x, Intergreen.STOPPED, Intergreen.NONE);
         x.start(1);
         Check.same("its green ended in the second 2, nobody else's did", x.go(1), 0);
         Check.same("5 seconds behind", x.ofPhase(1, 0), Intergreen.GREEN);
@@ -347,7 +330,7 @@ final class SecondsTest {
         Check.same("amber since 1", x.ofPhase(0, 0), Intergreen.AMBER);
         x.breaks(1, Intergreen.RED, true);
         x.go(1);
-        stands("it meets an amber one", x, Intergreen.FLASHING, Intergreen.NONE);
+        Crossings.stands("it meets an amber one", x, Intergreen.FLASHING, Intergreen.NONE);
         Check.same("the amber one is red", x.ofPhase(0, 0), Intergreen.RED);
         x.breaks(1, Intergreen.RED, false);
         x.start(1);
@@ -364,18 +347,18 @@ final class SecondsTest {
         x.breaks(1, Intergreen.GREEN, true);
         x.breaks(1, Intergreen.AMBER, true);
         x.go(2);
-        stands("stopped lights are not watched", x, Intergreen.STOPPED, Intergreen.NONE);
+        Crossings.stands("stopped lights are not watched", x, Intergreen.STOPPED, Intergreen.NONE);
         x.start(0);
         x.go(5);
-        stands("2 meets nobody, 0 is green", x, Intergreen.ON, 0);
+        Crossings.stands("2 meets nobody, 0 is green", x, Intergreen.ON, 0);
         Check.same("a red lamp broken", x.lamp(2, 6), Intergreen.DARK);
         Check.same("a red lamp whole", x.lamp(1, 6), Intergreen.RED);
         x.press(1);
         x.go(5);
-        stands("0 is amber, then red, and 1 is red", x, Intergreen.CHANGING, 1);
+        Crossings.stands("0 is amber, then red, and 1 is red", x, Intergreen.CHANGING, 1);
         Check.same("0 is dark", x.lamp(0, 10), Intergreen.DARK);
         x.go(1);
-        stands("1 becomes green in the second 12", x, Intergreen.FLASHING, Intergreen.NONE);
+        Crossings.stands("1 becomes green in the second 12", x, Intergreen.FLASHING, Intergreen.NONE);
         Check.same("dark, not green", x.lamp(1, 12), Intergreen.DARK);
     }
 
@@ -386,7 +369,7 @@ final class SecondsTest {
         x.breaks(1, Intergreen.RED, true);
         x.start(0);
         Check.same("nobody goes", x.go(1), 0);
-        stands("at once", x, Intergreen.FLASHING, Intergreen.NONE);
+        Crossings.stands("at once", x, Intergreen.FLASHING, Intergreen.NONE);
         Check.same("it was green in that second: its wait became 0, then 1", x.ofPhase(0, 4), 1);
         x.breaks(1, Intergreen.RED, false);
         x.start(1);
@@ -404,12 +387,12 @@ final class SecondsTest {
         x.breaks(1, Intergreen.RED, true);
         x.go(1);
         x.start(2);
-        stands("started while flashing", x, Intergreen.CHANGING, 2);
+        Crossings.stands("started while flashing", x, Intergreen.CHANGING, 2);
         x.go(1);
-        stands("2 meets nobody", x, Intergreen.ON, 2);
+        Crossings.stands("2 meets nobody", x, Intergreen.ON, 2);
         x.press(0);
         x.go(1);
-        stands("0 meets 1", x, Intergreen.FLASHING, Intergreen.NONE);
+        Crossings.stands("0 meets 1", x, Intergreen.FLASHING, Intergreen.NONE);
         Check.state("a phase while flashing", () -> x.phase(1, 1, 1));
     }
 
@@ -499,9 +482,9 @@ final class SecondsTest {
         Check.same("while the other is amber", x.ofPhase(0, 0), Intergreen.AMBER);
         x.breaks(0, Intergreen.RED, true);
         x.go(1);
-        stands("the amber one needs no red lamp", x, Intergreen.ON, 1);
+        Crossings.stands("the amber one needs no red lamp", x, Intergreen.ON, 1);
         x.go(1);
-        stands("it becomes red, and meets a green one", x, Intergreen.FLASHING, Intergreen.NONE);
+        Crossings.stands("it becomes red, and meets a green one", x, Intergreen.FLASHING, Intergreen.NONE);
     }
 
     private static void eightPhases() {
@@ -515,16 +498,16 @@ final class SecondsTest {
         x.start(0);
         x.breaks(6, Intergreen.RED, true);
         x.go(2);
-        stands("6 meets nobody", x, Intergreen.ON, 0);
+        Crossings.stands("6 meets nobody", x, Intergreen.ON, 0);
         x.press(7);
         x.go(4);
-        stands("7 is green, 3 seconds behind 0", x, Intergreen.ON, 1);
+        Crossings.stands("7 is green, 3 seconds behind 0", x, Intergreen.ON, 1);
         x.ask(0);
         x.breaks(7, Intergreen.RED, true);
         x.go(3);
-        stands("0 is green, 2 seconds behind 7, which is amber yet", x, Intergreen.ON, 0);
+        Crossings.stands("0 is green, 2 seconds behind 7, which is amber yet", x, Intergreen.ON, 0);
         x.go(1);
-        stands("7 is red and meets 0", x, Intergreen.FLASHING, Intergreen.NONE);
+        Crossings.stands("7 is red and meets 0", x, Intergreen.FLASHING, Intergreen.NONE);
         for (int number = 0; number < 8; number++) {
             Check.same("dark: " + number, x.lamp(number, 9), Intergreen.DARK);
             Check.same("red: " + number, x.ofPhase(number, 0), Intergreen.RED);

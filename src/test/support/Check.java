@@ -21,6 +21,36 @@ final class Check {
         same(call, got ? 1 : 0, due ? 1 : 0);
     }
 
+    /** Texts of lines: the first line that differs is told. */
+    static void text(String call, String got, String due) {
+        checked++;
+        if (!got.equals(due)) {
+            String[] gotLines = got.split("\n");
+            String[] dueLines = due.split("\n");
+            int line = 0;
+            while (line < gotLines.length - 1 && line < dueLines.length - 1
+                && gotLines[line].equals(dueLines[line])) {
+                line++;
+            }
+            fail(call + " answered '" + gotLines[line] + "', due is '" + dueLines[line] + "'");
+        }
+    }
+
+    /** The shortest round: how long it takes, by both ways to find it, and its stages, all of them. */
+    static void round(Intergreen x, int seconds, int... stages) {
+        same("round", x.round(), seconds);
+        same("roundAnew", x.roundAnew(), seconds);
+        for (int place = 0; place < stages.length; place++) {
+            same("inRound(" + place + ")", x.inRound(place), stages[place]);
+        }
+        bounds("inRound, behind the last", () -> x.inRound(stages.length));
+    }
+
+    /** The same for seconds between, as Crossings.between tells them. */
+    static void round(int[][] between, int seconds, int... stages) {
+        round(Crossings.between(between), seconds, stages);
+    }
+
     static void bounds(String call, Call run) {
         refused(call, IndexOutOfBoundsException.class, run);
     }
@@ -34,7 +64,7 @@ final class Check {
     }
 
     /** The very class is due: a subclass would be one that the machine throws. */
-    private static void refused(String call, Class<?> due, Call run) {
+    static void refused(String call, Class<?> due, Call run) {
         checked++;
         try {
             run.run();
